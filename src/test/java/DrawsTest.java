@@ -11,25 +11,18 @@ final class DrawsTest {
         Check.end();
     }
 
-    private static Model model(int coders, int pictures) {
-        Model due = new Model();
-        for (int k = 0; k < coders; k++) {
-            due.coder();
-        }
-        for (int k = 0; k < pictures; k++) {
-            due.picture();
-        }
-        return due;
+    private static Face model(int coders, int pictures) {
+        return Check.sized(new Model(), coders, pictures);
     }
 
-    private static void both(CoderTables x, Model due, int coder, int picture, int bytes) {
+    private static void both(Face x, Face due, int coder, int picture, int bytes) {
         x.point(coder, picture, bytes, 1);
         due.point(coder, picture, bytes, 1);
     }
 
     private static void draws() {
-        CoderTables x = Check.tables(3, 7);
-        Model due = model(3, 7);
+        Face x = Check.tables(3, 7);
+        Face due = model(3, 7);
         int[] one = {10, 1, 500, 30, 900, 20, 7};
         int[] other = {40, 0, 480, 31, 1, 15, 8};
         for (int picture = 0; picture < 7; picture++) {
@@ -52,8 +45,8 @@ final class DrawsTest {
     }
 
     private static void drawsAtTheEdges() {
-        CoderTables x = Check.tables(2, 24);
-        Model due = model(2, 24);
+        Face x = Check.tables(2, 24);
+        Face due = model(2, 24);
         for (int picture = 0; picture < 24; picture++) {
             both(x, due, 0, picture, picture % 2 == 0 ? 1 : 1000000000);
             both(x, due, 1, picture, picture % 2 == 0 ? 999999999 : 2 + picture);
@@ -61,7 +54,7 @@ final class DrawsTest {
         for (long seed : SEEDS) {
             Check.is("24 pictures", x.draws(0, 1, seed, 200), due.draws(0, 1, seed, 200));
         }
-        CoderTables single = Check.tables(2, 1);
+        Face single = Check.tables(2, 1);
         single.point(0, 0, 1, 0);
         single.point(1, 0, 2, 0);
         Check.is("one picture, less", single.draws(0, 1, 3, 200), 200);
@@ -70,7 +63,7 @@ final class DrawsTest {
     }
 
     private static void wrongDraws() {
-        CoderTables x = Check.tables(2, 2);
+        Face x = Check.tables(2, 2);
         x.point(0, 0, 1, 0);
         x.point(1, 1, 2, 0);
         Check.state("no such picture", () -> x.draws(0, 1, 1, 1));
@@ -92,7 +85,7 @@ final class DrawsTest {
         filledAsDue(3, 2, SEEDS);
         filledAsDue(8, 0, SEEDS);
         filledAsDue(0, 24, SEEDS);
-        CoderTables x = Check.tables(8, 24);
+        Face x = Check.tables(8, 24);
         Check.is("fill by 1", x.fill(1), 456);
         Check.is("points", x.told(2), 456);
         Check.is("counted", x.told(3), 140);
@@ -101,40 +94,34 @@ final class DrawsTest {
 
     private static void filledAsDue(int coders, int pictures, long[] seeds) {
         for (long seed : seeds) {
-            CoderTables x = Check.tables(coders, pictures);
-            Model due = model(coders, pictures);
             String name = coders + " by " + pictures + ", seed " + seed;
-            Check.is(name, x.fill(seed), due.fill(seed));
-            Check.is(name + " failed", x.failed(), due.failed());
-            for (int k = 0; k < due.failed(); k++) {
-                Check.is(name + " failing", x.failing(k, 0), due.failing(k, 0));
-                Check.is(name + " failing", x.failing(k, 1), due.failing(k, 1));
-            }
-            for (int pair = 0; pair < coders * pictures; pair++) {
-                int coder = pair / pictures;
-                int picture = pair % pictures;
-                Check.is(name + " hull", x.hull(coder, picture), due.hull(coder, picture));
-                for (int k = 0; k < due.hull(coder, picture); k++) {
-                    Check.is(name, x.onHull(coder, picture, k, 0), due.onHull(coder, picture, k, 0));
-                    Check.is(name, x.onHull(coder, picture, k, 1), due.onHull(coder, picture, k, 1));
-                }
-            }
+            Check.is(name, Check.tables(coders, pictures).fill(seed), model(coders, pictures).fill(seed));
+            Check.same(name, Asked.all(() -> filled(Check.tables(coders, pictures), seed)),
+                Asked.all(() -> filled(model(coders, pictures), seed)));
         }
     }
 
-    private static void fillAnew() {
-        CoderTables x = Check.tables(4, 5);
+    private static Face filled(Face x, long seed) {
+        x.fill(seed);
+        return x;
+    }
+
+    private static Face filledAnew() {
+        Face x = Check.tables(4, 5);
         Check.points(x, 0, 0, 1, 0, 2, 0, 3, 0, 4, 0, 5, 0, 6, 0);
         x.fails(3, 4);
+        return filled(x, 10);
+    }
+
+    private static void fillAnew() {
+        Check.same("filled anew", Asked.all(DrawsTest::filledAnew),
+            Asked.all(() -> filled(Check.tables(4, 5), 10)));
+        Face x = Check.tables(4, 5);
+        x.point(0, 0, 1, 0);
         x.text();
         String kept = Check.kept(x);
         x.fill(10);
         Check.same("fill keeps the text", Check.kept(x), kept);
-        CoderTables fresh = Check.tables(4, 5);
-        fresh.fill(10);
-        x.text();
-        fresh.text();
-        Check.same("filled anew", Model.snapshot(x), Model.snapshot(fresh));
         Check.is("coders stay", x.told(0), 4);
         Check.is("pictures stay", x.told(1), 5);
     }

@@ -11,35 +11,20 @@ final class HullTest {
         Check.end();
     }
 
-    /** The hull of a pair as bytes, error, and slope to the next one. */
-    private static String hullOf(CoderTables x, int coder, int picture) {
-        StringBuilder said = new StringBuilder();
-        int size = x.hull(coder, picture);
-        for (int k = 0; k < size; k++) {
-            said.append(x.onHull(coder, picture, k, 0)).append(',');
-            said.append(x.onHull(coder, picture, k, 1)).append(' ');
-            if (k + 1 < size) {
-                said.append(x.slope(coder, picture, k, true)).append('/');
-                said.append(x.slope(coder, picture, k, false)).append(' ');
-            }
-        }
-        return said.toString();
-    }
-
     private static void hullIs(String due, int... amounts) {
-        CoderTables x = Check.tables(2, 2);
+        Face x = Check.tables(2, 2);
         Check.points(x, 1, 1, amounts);
-        Check.same("hull", hullOf(x, 1, 1), due);
-        CoderTables back = Check.tables(2, 2);
+        Check.same("hull", Check.hullOf(x, 1, 1), due);
+        Face back = Check.tables(2, 2);
         for (int k = amounts.length - 2; k >= 0; k -= 2) {
             back.point(1, 1, amounts[k], amounts[k + 1]);
         }
-        Check.same("hull, points from behind", hullOf(back, 1, 1), due);
+        Check.same("hull, points from behind", Check.hullOf(back, 1, 1), due);
         Check.is("the pair before", x.hull(1, 0), 0);
     }
 
     private static void notCounted() {
-        CoderTables x = Check.tables(1, 1);
+        Face x = Check.tables(1, 1);
         Check.is("empty", x.hull(0, 0), 0);
         Check.index("empty", () -> x.onHull(0, 0, 0, 0));
         Check.index("empty", () -> x.slope(0, 0, 0, true));
@@ -89,7 +74,7 @@ final class HullTest {
     }
 
     private static void wrong() {
-        CoderTables x = Check.tables(2, 2);
+        Face x = Check.tables(2, 2);
         Check.points(x, 0, 0, 1, 9, 2, 5, 3, 4);
         Check.is("three", x.hull(0, 0), 3);
         Check.index("hull, coder 2", () -> x.hull(2, 0));
@@ -110,7 +95,7 @@ final class HullTest {
         Check.index("slope, k -1", () -> x.slope(0, 0, -1, false));
         Check.index("slope, k least", () -> x.slope(0, 0, Integer.MIN_VALUE, false));
         Check.is("slope, k 1", x.slope(0, 0, 1, true), 1);
-        CoderTables one = Check.tables(1, 1);
+        Face one = Check.tables(1, 1);
         one.point(0, 0, 1, 1);
         Check.index("slope of one point", () -> one.slope(0, 0, 0, true));
     }

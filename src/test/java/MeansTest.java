@@ -10,7 +10,7 @@ final class MeansTest {
     }
 
     private static void least() {
-        CoderTables x = Check.tables(4, 2);
+        Face x = Check.tables(4, 2);
         Check.is("no points", x.least(0, 1000), CoderTables.NONE);
         Check.points(x, 0, 0, 50, 10, 90, 2);
         Check.points(x, 1, 0, 40, 20, 60, 5);
@@ -35,12 +35,12 @@ final class MeansTest {
         Check.index("picture 2", () -> x.least(2, 0));
         Check.index("picture -1", () -> x.least(-1, 0));
         Check.index("picture 2, error -1", () -> x.least(2, -1));
-        CoderTables none = Check.tables(0, 1);
+        Face none = Check.tables(0, 1);
         Check.is("no coder", none.least(0, 0), CoderTables.NONE);
     }
 
     private static void sum() {
-        CoderTables x = Check.tables(2, 24);
+        Face x = Check.tables(2, 24);
         Check.is("no counted pair", x.sum(0), CoderTables.NONE);
         Check.points(x, 0, 0, 9, 1, 7, 2, 8, 0);
         Check.is("least of a pair", x.sum(0), 7);
@@ -56,12 +56,12 @@ final class MeansTest {
         Check.is("the greatest", x.sum(1), 24000000000L);
         Check.index("coder 2", () -> x.sum(2));
         Check.index("coder -1", () -> x.sum(-1));
-        CoderTables none = Check.tables(1, 0);
+        Face none = Check.tables(1, 0);
         Check.is("no picture", none.sum(0), CoderTables.NONE);
     }
 
     private static void mean() {
-        CoderTables x = Check.tables(2, 24);
+        Face x = Check.tables(2, 24);
         Check.state("no counted pair", () -> x.mean(0, true));
         Check.state("no counted pair", () -> x.mean(0, false));
         Check.index("coder 2", () -> x.mean(2, true));
@@ -87,7 +87,7 @@ final class MeansTest {
     }
 
     private static void rank() {
-        CoderTables x = Check.tables(3, 3);
+        Face x = Check.tables(3, 3);
         Check.state("no counted pair", () -> x.rank(0));
         Check.index("coder 3", () -> x.rank(3));
         Check.index("coder -1", () -> x.rank(-1));
@@ -108,7 +108,7 @@ final class MeansTest {
     }
 
     private static void rankOfEqualMeans() {
-        CoderTables x = Check.tables(8, 3);
+        Face x = Check.tables(8, 3);
         for (int coder = 0; coder < 8; coder++) {
             x.point(coder, 0, 6, 0);
         }
@@ -119,7 +119,7 @@ final class MeansTest {
         Check.points(x, 1, 1, 7, 0);
         Check.is("13 / 2 is the greatest", x.rank(1), 2 * 7 + 1 + 1);
         Check.is("seven the same", x.rank(0), 8);
-        CoderTables near = Check.tables(2, 24);
+        Face near = Check.tables(2, 24);
         for (int picture = 0; picture < 24; picture++) {
             near.point(0, picture, picture == 5 ? 999999999 : 1000000000, 0);
         }

@@ -4,7 +4,7 @@ import java.util.Comparator;
 import java.util.List;
 
 /** The document's terms once more, word by word and without a care for speed, to compare with. */
-final class Model {
+final class Model implements Face {
     private static final class Pair {
         private final List<long[]> points = new ArrayList<>();
         private boolean failed = false;
@@ -80,17 +80,20 @@ final class Model {
         }
     }
 
-    int coder() {
+    @Override
+    public int coder() {
         needRoom(coders < 8);
         return coders++;
     }
 
-    int picture() {
+    @Override
+    public int picture() {
         needRoom(pictures < 24);
         return pictures++;
     }
 
-    int point(int coder, int picture, int bytes, int error) {
+    @Override
+    public int point(int coder, int picture, int bytes, int error) {
         Pair pair = pair(coder, picture);
         needArgument(bytes >= 1 && bytes <= 1000000000 && error >= 0 && error <= 1000000000);
         needState(!pair.failed);
@@ -99,7 +102,8 @@ final class Model {
         return pair.points.size();
     }
 
-    int fails(int coder, int picture) {
+    @Override
+    public int fails(int coder, int picture) {
         Pair pair = pair(coder, picture);
         needState(!pair.failed);
         int lost = pair.points.size();
@@ -109,17 +113,20 @@ final class Model {
         return lost;
     }
 
-    int failed() {
+    @Override
+    public int failed() {
         return failures.size();
     }
 
-    int failing(int k, int what) {
+    @Override
+    public int failing(int k, int what) {
         needIndex(k >= 0 && k < failures.size());
         needArgument(what == 0 || what == 1);
         return failures.get(k)[what];
     }
 
-    int least(int picture, int error) {
+    @Override
+    public int least(int picture, int error) {
         needPicture(picture);
         needArgument(error >= 0);
         int best = -1;
@@ -157,18 +164,21 @@ final class Model {
         return (first ? numerator : denominator).divide(common).longValueExact();
     }
 
-    long sum(int coder) {
+    @Override
+    public long sum(int coder) {
         needCoder(coder);
         return bytesOf(coder).isEmpty() ? -1 : meanOf(coder)[0].longValueExact();
     }
 
-    long mean(int coder, boolean numerator) {
+    @Override
+    public long mean(int coder, boolean numerator) {
         needCoder(coder);
         needState(!bytesOf(coder).isEmpty());
         return side(meanOf(coder)[0], meanOf(coder)[1], numerator);
     }
 
-    int rank(int coder) {
+    @Override
+    public int rank(int coder) {
         needCoder(coder);
         needState(!bytesOf(coder).isEmpty());
         BigInteger[] mean = meanOf(coder);
@@ -225,18 +235,21 @@ final class Model {
         return left.compareTo(right) < 0;
     }
 
-    int hull(int coder, int picture) {
+    @Override
+    public int hull(int coder, int picture) {
         return hullOf(pair(coder, picture)).size();
     }
 
-    int onHull(int coder, int picture, int k, int what) {
+    @Override
+    public int onHull(int coder, int picture, int k, int what) {
         List<long[]> hull = hullOf(pair(coder, picture));
         needIndex(k >= 0 && k < hull.size());
         needArgument(what == 0 || what == 1);
         return (int) hull.get(k)[what];
     }
 
-    long slope(int coder, int picture, int k, boolean numerator) {
+    @Override
+    public long slope(int coder, int picture, int k, boolean numerator) {
         List<long[]> hull = hullOf(pair(coder, picture));
         needIndex(k >= 0 && k < hull.size() - 1);
         long[] from = hull.get(k);
@@ -262,7 +275,8 @@ final class Model {
         return all;
     }
 
-    long signs(int one, int other, int what) {
+    @Override
+    public long signs(int one, int other, int what) {
         needCoder(one);
         needCoder(other);
         needArgument(what >= 0 && what <= 3);
@@ -285,7 +299,8 @@ final class Model {
         return number.shiftRight(33).mod(BigInteger.valueOf(n)).intValueExact();
     }
 
-    int draws(int one, int other, long seed, int times) {
+    @Override
+    public int draws(int one, int other, long seed, int times) {
         needCoder(one);
         needCoder(other);
         needArgument(times >= 0 && times <= 200);
@@ -306,7 +321,8 @@ final class Model {
         return less;
     }
 
-    int fill(long seed) {
+    @Override
+    public int fill(long seed) {
         empty();
         number = BigInteger.valueOf(seed);
         for (int coder = 0; coder < coders; coder++) {
@@ -325,7 +341,8 @@ final class Model {
         return told(2);
     }
 
-    int text() {
+    @Override
+    public int text() {
         StringBuilder made = new StringBuilder();
         for (int coder = 0; coder < coders; coder++) {
             made.append(coder).append(' ');
@@ -335,12 +352,14 @@ final class Model {
         return text.length();
     }
 
-    int charAt(int i) {
+    @Override
+    public int charAt(int i) {
         needIndex(i >= 0 && i < text.length());
         return text.charAt(i);
     }
 
-    int told(int what) {
+    @Override
+    public int told(int what) {
         int points = 0;
         int counted = 0;
         for (Pair[] row : pairs) {
@@ -352,34 +371,16 @@ final class Model {
         return what == 0 ? coders : what == 1 ? pictures : what == 2 ? points : what == 3 ? counted : -1;
     }
 
-    void clear() {
+    @Override
+    public void clear() {
         empty();
         coders = 0;
         pictures = 0;
         text = "";
     }
 
-    /** All that can be asked of an object without changing it. */
-    static String snapshot(CoderTables x) {
-        StringBuilder all = new StringBuilder();
-        for (int what = 0; what < 4; what++) {
-            all.append(x.told(what)).append(' ');
-        }
-        all.append("failed");
-        for (int k = 0; k < x.failed(); k++) {
-            all.append(' ').append(x.failing(k, 0)).append(',').append(x.failing(k, 1));
-        }
-        for (int coder = 0; coder < x.told(0); coder++) {
-            int c = coder;
-            all.append("\ncoder ").append(x.sum(c)).append(' ').append(Check.answer(() -> x.rank(c)));
-            for (int picture = 0; picture < x.told(1); picture++) {
-                all.append(" hull");
-                for (int k = 0; k < x.hull(c, picture); k++) {
-                    all.append(' ').append(x.onHull(c, picture, k, 0));
-                    all.append(',').append(x.onHull(c, picture, k, 1));
-                }
-            }
-        }
-        return all.append('\n').append(Check.kept(x)).toString();
+    @Override
+    public int left() {
+        return Integer.MAX_VALUE;
     }
 }

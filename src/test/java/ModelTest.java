@@ -1,44 +1,47 @@
 import java.util.Random;
+import java.util.function.ToLongFunction;
 
 /** Runs of 512 calls, drawn by seeds, on the class and on the model: each answer must be the same. */
 final class ModelTest {
-    private static final int RUNS = 400;
-    private static final int CALLS = 512;
+    private static final int RUNS = 1200;
 
     private final Random random;
-    private final CoderTables x = new CoderTables();
-    private final Model due = new Model();
+    private final Face x = new Table();
+    private final Face due = new Model();
+    private final int run;
     /** Small amounts make points, means and slopes that are equal; great ones test the width. */
     private final int kind;
 
-    private ModelTest(long seed) {
-        random = new Random(seed);
-        kind = (int) (seed % 3);
+    private ModelTest(int run) {
+        this.run = run;
+        random = new Random(run);
+        kind = run % 3;
     }
 
     public static void main(String[] args) {
         for (int run = 0; run < RUNS; run++) {
-            new ModelTest(run).run(run);
+            new ModelTest(run).run();
         }
         Check.end();
     }
 
-    private void run(int run) {
-        int coders = random.nextInt(9);
-        int pictures = random.nextInt(25);
+    private void run() {
+        int coders = run % 5 == 0 ? 8 : random.nextInt(9);
+        int pictures = run % 7 == 0 ? 24 : random.nextInt(25);
         for (int k = 0; k < coders; k++) {
-            same("coder()", x::coder, due::coder);
+            same("coder", Face::coder);
         }
         for (int k = 0; k < pictures; k++) {
-            same("picture()", x::picture, due::picture);
+            same("picture", Face::picture);
         }
-        for (int k = coders + pictures; k < CALLS; k++) {
-            call("run " + run + ", call " + k + ": ");
+        while (x.left() > 0) {
+            call();
         }
     }
 
-    private void same(String name, Check.Call got, Check.Call model) {
-        Check.same(name, Check.answer(got), Check.answer(model));
+    private void same(String name, ToLongFunction<Face> call) {
+        String where = "run " + run + ", " + name + ", " + x.left() + " calls before the end,";
+        Check.same(where, Check.answer(() -> call.applyAsLong(x)), Check.answer(() -> call.applyAsLong(due)));
     }
 
     private int coder() {
@@ -58,67 +61,69 @@ final class ModelTest {
             : 1000000000 - random.nextInt(random.nextBoolean() ? 5 : 1000000000);
     }
 
-    private void call(String name) {
+    private void call() {
         int one = coder();
         int other = coder();
         int at = picture();
         int a = amount();
         int b = amount();
         int k = random.nextInt(8) - 1;
+        int what = random.nextInt(20) == 0 ? random.nextInt(5) - 2 : random.nextInt(2);
         boolean side = random.nextBoolean();
         int pick = random.nextInt(100);
         if (pick < 40) {
-            same(name + "point", () -> x.point(one, at, a, b), () -> due.point(one, at, a, b));
+            same("point", t -> t.point(one, at, a, b));
         } else if (pick < 43) {
-            same(name + "fails", () -> x.fails(one, at), () -> due.fails(one, at));
-        } else if (pick < 52) {
-            same(name + "hull", () -> x.hull(one, at), () -> due.hull(one, at));
-            same(name + "onHull", () -> x.onHull(one, at, k, 0), () -> due.onHull(one, at, k, 0));
-            same(name + "onHull", () -> x.onHull(one, at, k, 1), () -> due.onHull(one, at, k, 1));
+            same("fails", t -> t.fails(one, at));
+        } else if (pick < 46) {
+            same("hull", t -> t.hull(one, at));
+        } else if (pick < 54) {
+            same("onHull", t -> t.onHull(one, at, k, what));
         } else if (pick < 60) {
-            same(name + "slope", () -> x.slope(one, at, k, side), () -> due.slope(one, at, k, side));
+            same("slope", t -> t.slope(one, at, k, side));
         } else if (pick < 66) {
-            same(name + "least", () -> x.least(at, a), () -> due.least(at, a));
+            same("least", t -> t.least(at, a));
         } else if (pick < 72) {
-            same(name + "signs", () -> x.signs(one, other, k), () -> due.signs(one, other, k));
+            same("signs", t -> t.signs(one, other, k));
         } else if (pick < 94) {
-            ofOneCoder(name, pick, one, k, side);
+            ofOneCoder(pick, one, k, what, side);
         } else {
-            rare(name, one, other);
+            rare(one, other);
         }
     }
 
-    private void ofOneCoder(String name, int pick, int one, int k, boolean side) {
+    private void ofOneCoder(int pick, int one, int k, int what, boolean side) {
         if (pick < 76) {
-            same(name + "sum", () -> x.sum(one), () -> due.sum(one));
+            same("sum", t -> t.sum(one));
         } else if (pick < 80) {
-            same(name + "mean", () -> x.mean(one, side), () -> due.mean(one, side));
+            same("mean", t -> t.mean(one, side));
         } else if (pick < 85) {
-            same(name + "rank", () -> x.rank(one), () -> due.rank(one));
+            same("rank", t -> t.rank(one));
+        } else if (pick < 86) {
+            same("failed", Face::failed);
         } else if (pick < 88) {
-            same(name + "failed", x::failed, due::failed);
-            same(name + "failing", () -> x.failing(k, k & 3), () -> due.failing(k, k & 3));
+            same("failing", t -> t.failing(k, what));
         } else if (pick < 91) {
-            same(name + "told", () -> x.told(k), () -> due.told(k));
+            same("told", t -> t.told(k));
         } else {
             int i = random.nextInt(140) - 1;
-            same(name + "charAt", () -> x.charAt(i), () -> due.charAt(i));
+            same("charAt", t -> t.charAt(i));
         }
     }
 
-    private void rare(String name, int one, int other) {
+    private void rare(int one, int other) {
         long seed = random.nextLong();
         int times = random.nextInt(12) == 0 ? random.nextInt(206) - 2 : random.nextInt(20);
         switch (random.nextInt(12)) {
             case 0:
-                same(name + "coder", x::coder, due::coder);
+                same("coder", Face::coder);
                 break;
             case 1:
-                same(name + "picture", x::picture, due::picture);
+                same("picture", Face::picture);
                 break;
             case 2:
                 if (random.nextInt(3) == 0) {
-                    same(name + "fill", () -> x.fill(seed), () -> due.fill(seed));
+                    same("fill", t -> t.fill(seed));
                 }
                 break;
             case 3:
@@ -130,11 +135,10 @@ final class ModelTest {
             case 4:
             case 5:
             case 6:
-                same(name + "text", x::text, due::text);
+                same("text", Face::text);
                 break;
             default:
-                same(name + "draws", () -> x.draws(one, other, seed, times),
-                    () -> due.draws(one, other, seed, times));
+                same("draws", t -> t.draws(one, other, seed, times));
         }
     }
 }

@@ -8,8 +8,8 @@ final class SignsTest {
     }
 
     /** Two coders, of which the first wins, then loses, then is even with the other. */
-    private static CoderTables match(int wins, int losses, int even) {
-        CoderTables x = Check.tables(3, wins + losses + even);
+    private static Face match(int wins, int losses, int even) {
+        Face x = Check.tables(3, wins + losses + even);
         for (int picture = 0; picture < wins + losses + even; picture++) {
             x.point(0, picture, 100, 0);
             x.point(2, picture, picture < wins ? 101 : picture < wins + losses ? 99 : 100, 0);
@@ -18,7 +18,7 @@ final class SignsTest {
     }
 
     private static void signsAre(int wins, int losses, int even, long numerator, long denominator) {
-        CoderTables x = match(wins, losses, even);
+        Face x = match(wins, losses, even);
         String name = wins + " : " + losses;
         Check.is(name + " w", x.signs(0, 2, 0), wins);
         Check.is(name + " l", x.signs(0, 2, 1), losses);
@@ -31,7 +31,7 @@ final class SignsTest {
     }
 
     private static void winsAndLosses() {
-        CoderTables x = Check.tables(2, 6);
+        Face x = Check.tables(2, 6);
         Check.points(x, 0, 0, 5, 0, 9, 0);
         Check.points(x, 1, 0, 6, 0, 7, 0);
         Check.points(x, 0, 1, 8, 0);
@@ -70,7 +70,7 @@ final class SignsTest {
     }
 
     private static void wrong() {
-        CoderTables x = match(2, 1, 0);
+        Face x = match(2, 1, 0);
         Check.index("one 3", () -> x.signs(3, 0, 0));
         Check.index("one -1", () -> x.signs(-1, 0, 0));
         Check.index("other 3", () -> x.signs(0, 3, 0));

@@ -12,7 +12,7 @@ final class TablesTest {
     }
 
     private static void newObject() {
-        CoderTables x = new CoderTables();
+        Face x = new Table();
         for (int what = 0; what < 4; what++) {
             Check.is("new: told " + what, x.told(what), 0);
         }
@@ -25,7 +25,7 @@ final class TablesTest {
     }
 
     private static void codersAndPictures() {
-        CoderTables x = new CoderTables();
+        Face x = new Table();
         for (int k = 0; k < 8; k++) {
             Check.is("coder", x.coder(), k);
             Check.is("told coders", x.told(0), k + 1);
@@ -42,7 +42,7 @@ final class TablesTest {
         Check.is("coders beside", x.told(0), 8);
         Check.is("last pair", x.point(7, 23, 5, 5), 1);
         Check.is("last pair's hull", x.hull(7, 23), 1);
-        CoderTables y = Check.tables(1, 1);
+        Face y = Check.tables(1, 1);
         y.point(0, 0, 4, 4);
         Check.is("a later coder", y.coder(), 1);
         Check.is("a later picture", y.picture(), 1);
@@ -51,7 +51,7 @@ final class TablesTest {
     }
 
     private static void points() {
-        CoderTables x = Check.tables(2, 2);
+        Face x = Check.tables(2, 2);
         Check.index("coder -1", () -> x.point(-1, 0, 1, 1));
         Check.index("coder 2", () -> x.point(2, 0, 1, 1));
         Check.index("picture -1", () -> x.point(0, -1, 1, 1));
@@ -80,7 +80,7 @@ final class TablesTest {
     }
 
     private static void failures() {
-        CoderTables x = Check.tables(2, 2);
+        Face x = Check.tables(2, 2);
         Check.index("coder 2", () -> x.fails(2, 0));
         Check.index("coder -1", () -> x.fails(-1, 0));
         Check.index("picture 2", () -> x.fails(0, 2));
@@ -102,7 +102,7 @@ final class TablesTest {
     }
 
     private static void failing() {
-        CoderTables x = Check.tables(8, 24);
+        Face x = Check.tables(8, 24);
         int[] order = {7, 23, 0, 0, 3, 22, 0, 23, 7, 0};
         for (int k = 0; k < order.length; k += 2) {
             x.fails(order[k], order[k + 1]);
@@ -115,7 +115,7 @@ final class TablesTest {
         Check.index("place 5, what 2", () -> x.failing(5, 2));
         Check.argument("what 2", () -> x.failing(4, 2));
         Check.argument("what -1", () -> x.failing(0, -1));
-        CoderTables all = Check.tables(8, 24);
+        Face all = Check.tables(8, 24);
         for (int pair = 191; pair >= 0; pair--) {
             all.fails(pair / 24, pair % 24);
         }
@@ -126,7 +126,7 @@ final class TablesTest {
     }
 
     private static void told() {
-        CoderTables x = Check.tables(3, 2);
+        Face x = Check.tables(3, 2);
         Check.points(x, 0, 0, 1, 1, 2, 2);
         Check.points(x, 2, 1, 1, 1, 2, 2, 3, 3);
         x.fails(1, 1);
@@ -141,7 +141,7 @@ final class TablesTest {
     }
 
     private static void clear() {
-        CoderTables x = Check.tables(8, 24);
+        Face x = Check.tables(8, 24);
         x.fill(5);
         x.text();
         x.clear();

@@ -7,7 +7,7 @@ final class TextTest {
         Check.end();
     }
 
-    private static void textIs(CoderTables x, String due) {
+    private static void textIs(Face x, String due) {
         Check.is("length of the text", x.text(), due.length());
         Check.same("text", Check.kept(x), due);
         Check.index("behind the text", () -> x.charAt(due.length()));
@@ -17,10 +17,10 @@ final class TextTest {
     }
 
     private static void lines() {
-        textIs(new CoderTables(), "");
+        textIs(new Table(), "");
         textIs(Check.tables(0, 3), "");
         textIs(Check.tables(2, 0), "0 -\n1 -\n");
-        CoderTables x = Check.tables(4, 2);
+        Face x = Check.tables(4, 2);
         textIs(x, "0 -\n1 -\n2 -\n3 -\n");
         x.point(0, 0, 10, 0);
         x.point(2, 0, 9, 0);
@@ -33,7 +33,7 @@ final class TextTest {
     }
 
     private static void longest() {
-        CoderTables x = Check.tables(8, 24);
+        Face x = Check.tables(8, 24);
         StringBuilder due = new StringBuilder();
         for (int coder = 0; coder < 8; coder++) {
             for (int picture = 0; picture < 24; picture++) {
@@ -45,14 +45,14 @@ final class TextTest {
         textIs(x, due.toString());
         int[] edges = {1, 9, 10, 99, 100, 999999999, 1000000000};
         for (int bytes : edges) {
-            CoderTables y = Check.tables(1, 1);
+            Face y = Check.tables(1, 1);
             y.point(0, 0, bytes, 0);
             textIs(y, "0 " + bytes + " 2\n");
         }
     }
 
     private static void lasting() {
-        CoderTables x = Check.tables(2, 1);
+        Face x = Check.tables(2, 1);
         x.point(0, 0, 12345, 0);
         Check.index("no text yet", () -> x.charAt(0));
         x.text();
