@@ -55,7 +55,7 @@ final class FaceTest {
             if (!Modifier.isPrivate(method.getModifiers())) {
                 open.add(told(method));
                 openNames.add(method.getName());
-                Check.is("public " + method, Modifier.isPublic(method.getModifiers()) ? 1 : 0, 1);
+                Check.same("open " + method, Modifier.toString(method.getModifiers()), "public");
             }
         }
         Check.same("methods", open.toString(), new TreeSet<>(Arrays.asList(FACE)).toString());
@@ -66,10 +66,17 @@ final class FaceTest {
         }
         Constructor<?>[] made = CoderTables.class.getDeclaredConstructors();
         Check.is("constructors", made.length, 1);
+        Check.same("the constructor", Modifier.toString(made[0].getModifiers()), "public");
         Check.is("its parameters", made[0].getParameterCount(), 0);
+        Check.is("what it throws", made[0].getExceptionTypes().length, 0);
+        Check.same("the class above it", CoderTables.class.getSuperclass().getSimpleName(), "Object");
+        Check.is("its interfaces", CoderTables.class.getInterfaces().length, 0);
         for (Field field : CoderTables.class.getDeclaredFields()) {
-            boolean none = field.getName().equals("NONE");
-            Check.is("private " + field, Modifier.isPrivate(field.getModifiers()) ? 1 : 0, none ? 0 : 1);
+            if (field.getName().equals("NONE")) {
+                Check.same("NONE", field.toString(), "public static final int CoderTables.NONE");
+            } else {
+                Check.is("private " + field, Modifier.isPrivate(field.getModifiers()) ? 1 : 0, 1);
+            }
             if (Modifier.isStatic(field.getModifiers())) {
                 Check.is("final " + field, Modifier.isFinal(field.getModifiers()) ? 1 : 0, 1);
             }

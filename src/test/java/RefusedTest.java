@@ -48,7 +48,7 @@ final class RefusedTest {
      * best off it; (0, 1) has failed, then (2, 3); (1, 0) has two points, (1, 2) one; the rest is empty,
      * and coder 2 has no counted pair. The text is older than the last point.
      */
-    private static Face small() {
+    static Face small() {
         Face x = Check.tables(3, 4);
         Check.points(x, 0, 0, 10, 90, 20, 40, 20, 50, 30, 39, 40, 0, 15, 95);
         x.fails(0, 1);
